@@ -63,19 +63,25 @@ public final class Datalogmill {
     private int now;
 
     public Datalogmill() {
-        schema = new Schema();
-        facts = new Facts();
-        program = new Program(schema);
-        draft = new Body();
-        trial = new Model(schema);
+        Schema relations = new Schema();
+        Facts told = new Facts();
+        Program entered = new Program(relations);
+        Body begun = new Body();
+        Model aside = new Model(relations);
+        Walk through = new Walk(relations, begun, aside);
+        schema = relations;
+        facts = told;
+        program = entered;
+        draft = begun;
+        trial = aside;
+        walk = through;
+        mill = new Mill(told, entered, through);
         models = new Model[HOURS];
         spares = new Model[HOURS];
         for (int hour = 0; hour < HOURS; hour++) {
-            models[hour] = new Model(schema);
-            spares[hour] = new Model(schema);
+            models[hour] = new Model(relations);
+            spares[hour] = new Model(relations);
         }
-        walk = new Walk(schema, draft, trial);
-        mill = new Mill(facts, program, walk);
         costs = new Costs();
         asked = new Goals();
         plan = new Plan();

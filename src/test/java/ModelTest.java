@@ -12,6 +12,9 @@ public final class ModelTest {
     public static void main(String[] args) {
         promise14Holds();
         promise14HoldsOfKinds();
+        promise14HoldsByTwoNewTuples();
+        promise14HoldsByTuplesOfRounds();
+        promise14HoldsNotOfKinds();
         promise15HoldsAt();
         promise16HoldsAnew();
         promise17Size();
@@ -104,6 +107,69 @@ public final class ModelTest {
         CHECK.due("bits of both", greatest.holds(3, 5, 5, 0), true);
         CHECK.due("not of one", greatest.holds(3, 5, 4, 0), false);
         CHECK.due("of another key", greatest.holds(3, 6, 8, 0), true);
+    }
+
+    private static void promise14HoldsByTwoNewTuples() {
+        Datalogmill mill = paths(12, 23, 34, 45, 56, 67, 78, 89);
+        mill.remove(1);
+        mill.head(1, -1, -3, 0);
+        mill.atom(1, true, -1, -2, 0);
+        mill.atom(1, true, -2, -3, 0);
+        mill.enter();
+        CHECK.due("all paths", mill.size(1), 36);
+        CHECK.due("the longest", mill.holds(1, 1, 9, 0), true);
+        CHECK.due("back", mill.holds(1, 9, 1, 0), false);
+        mill.remove(2);
+        mill.head(1, -1, -4, 0);
+        mill.atom(1, true, -1, -2, 0);
+        mill.atom(1, true, -2, -3, 0);
+        mill.atom(1, true, -3, -4, 0);
+        mill.enter();
+        CHECK.due("paths by three", mill.size(1), 8 + 6 + 4 + 2);
+        CHECK.due("one of seven edges", mill.holds(1, 2, 9, 0), true);
+        CHECK.due("one of eight edges", mill.holds(1, 1, 9, 0), false);
+    }
+
+    /** Two counts that go on at the same time, and what needs a tuple of both, or one and the next. */
+    private static void promise14HoldsByTuplesOfRounds() {
+        Datalogmill mill = new Datalogmill();
+        for (int relation = 0; relation < 4; relation++) {
+            mill.declare(relation, 1, PLAIN, 1);
+        }
+        mill.fact(0, 0, 0, 0, 1, 0, 3);
+        mill.fact(1, 0, 0, 0, 1, 0, 3);
+        mill.head(2, -1, 0, 0);
+        mill.atom(0, true, -1, 0, 0);
+        mill.atom(1, true, -1, 0, 0);
+        mill.enter();
+        mill.head(3, -1, 0, 0);
+        mill.atom(0, true, -1, 0, 0);
+        mill.add(-2, -1, 1);
+        mill.atom(0, true, -2, 0, 0);
+        mill.enter();
+        for (int relation = 0; relation < 2; relation++) {
+            mill.head(relation, -2, 0, 0);
+            mill.atom(relation, true, -1, 0, 0);
+            mill.compare(Datalogmill.LESS, -1, 10);
+            mill.add(-2, -1, 1);
+            mill.enter();
+        }
+        CHECK.due("a count", mill.size(0), 11);
+        CHECK.due("of both", mill.size(2), 11);
+        CHECK.due("one and the next", mill.size(3), 10);
+    }
+
+    private static void promise14HoldsNotOfKinds() {
+        Datalogmill mill = lengths(LEAST, 14, 25);
+        for (int value = 3; value < 6; value++) {
+            mill.head(2, value, 0, 0);
+            mill.atom(0, true, 0, 1, -1);
+            mill.atom(1, false, 1, value, 0);
+            mill.enter();
+        }
+        CHECK.due("another value", mill.holds(2, 3, 0, 0), true);
+        CHECK.due("the value", mill.holds(2, 4, 0, 0), false);
+        CHECK.due("a greater value", mill.holds(2, 5, 0, 0), true);
     }
 
     private static void promise15HoldsAt() {
@@ -285,6 +351,8 @@ public final class ModelTest {
         CHECK.due("all ways to a key", least.ways(1, 1, 3, 0), 2);
         CHECK.due("a value that is not the least", least.ways(1, 1, 4, 0), 0);
         CHECK.due("a fact and a way back", least.ways(1, 0, 0, 0), 2);
+        least.fact(1, 1, 100, 0, 1, 0, 3);
+        CHECK.due("a fact of another value", least.ways(1, 1, 3, 0), 3);
     }
 
     private static void promise21Cheapest() {
@@ -326,6 +394,8 @@ public final class ModelTest {
         mill.head(0, 9, 0, 0);
         mill.enter();
         CHECK.due("a rule without literals", mill.cheapest(0, 9, 0, 0), 1);
+        mill.remove(1);
+        CHECK.due("a removed rule", mill.cheapest(0, 9, 0, 0), 1000000);
     }
 
     private static void promise22Needed() {

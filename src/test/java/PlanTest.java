@@ -12,9 +12,11 @@ public final class PlanTest {
         promise26Goals();
         promise26GoalsOfKinds();
         promise26GoalsAtMost();
+        promise26GoalsOfGoals();
         promise27Order();
         promise28Joins();
         promise29Indexes();
+        promise29IndexesOfAllOrders();
         CHECK.end();
     }
 
@@ -48,6 +50,7 @@ public final class PlanTest {
         mill.enter();
         CHECK.due("itself, the first atom, and two that are not to hold", mill.goals(2, 1, FREE, 5), 4);
         CHECK.due("a value of the head", mill.goals(2, 1, FREE, 4), 1);
+        CHECK.due("the value 0", mill.goals(2, 1, FREE, 0), 1);
         CHECK.due("one assignment", mill.goals(2, FREE, 3, FREE), 3);
         CHECK.due("none", mill.goals(2, 3, 3, FREE), 2);
         mill.head(1, -1, -1, 0);
@@ -98,6 +101,29 @@ public final class PlanTest {
         mill.fact(0, 19, 0, 0, 1, 0, 3);
         CHECK.due("402", mill.goals(1, FREE, FREE, 0), 400);
         CHECK.due("again", mill.goals(1, 5, FREE, 0), 23);
+    }
+
+    /** Goals that come from goals, of pairs of places in a ring. */
+    private static void promise26GoalsOfGoals() {
+        Datalogmill mill = relations();
+        mill.declare(4, 2, PLAIN, 2);
+        mill.head(4, -1, -2, 0);
+        mill.atom(1, true, -1, -3, 0);
+        mill.atom(1, true, -2, -4, 0);
+        mill.atom(4, true, -3, -2, 0);
+        mill.enter();
+        mill.head(4, -1, -2, 0);
+        mill.atom(1, true, -2, -3, 0);
+        mill.atom(1, true, -1, -4, 0);
+        mill.atom(4, true, -1, -3, 0);
+        mill.enter();
+        for (int place = 0; place < 19; place++) {
+            mill.fact(1, place, (place + 1) % 19, 0, 1, 0, 3);
+        }
+        CHECK.due("pairs and places", mill.goals(4, 3, 5, 0), 380);
+        mill.fact(1, 18, 19, 0, 1, 0, 3);
+        mill.fact(1, 19, 0, 0, 1, 0, 3);
+        CHECK.due("more", mill.goals(4, 3, 5, 0), 400);
     }
 
     private static void order(Datalogmill mill, int rule, int... places) {
@@ -173,6 +199,13 @@ public final class PlanTest {
         mill.head(0, 9, 0, 0);
         mill.enter();
         CHECK.due("no atoms", mill.joins(4), 0);
+        mill.head(0, -1, 0, 0);
+        mill.atom(1, true, -1, 1, 0);
+        mill.atom(1, false, 2, 2, 0);
+        mill.compare(0, 1, 1);
+        mill.add(-2, 1, 1);
+        mill.enter();
+        CHECK.due("one atom that is to hold", mill.joins(5), 1);
         mill.remove(0);
         CHECK.due("a removed rule", mill.joins(0), 1);
     }
@@ -220,5 +253,31 @@ public final class PlanTest {
         mill.atom(1, true, 3, -2, 0);
         mill.enter();
         CHECK.due("by either column", mill.indexes(1), 2);
+    }
+
+    /** Searches by one, two and three columns, in each order, and then by each other column alone. */
+    private static void promise29IndexesOfAllOrders() {
+        for (int first = 0; first < 3; first++) {
+            for (int second = 0; second < 3; second++) {
+                if (first != second) {
+                    Datalogmill mill = relations();
+                    mill.declare(4, 3, PLAIN, 3);
+                    search(mill, 1, 1, 1);
+                    CHECK.due("all columns", mill.indexes(4), 1);
+                    int[] terms = {-1, -2, -3};
+                    terms[first] = 1;
+                    search(mill, terms[0], terms[1], terms[2]);
+                    terms[second] = 1;
+                    search(mill, terms[0], terms[1], terms[2]);
+                    CHECK.due("from " + first + " to " + second, mill.indexes(4), 1);
+                    int[] other = {-1, -2, -3};
+                    other[second] = 1;
+                    search(mill, other[0], other[1], other[2]);
+                    CHECK.due("and " + second, mill.indexes(4), 2);
+                    search(mill, first + second == 2 ? -1 : 1, first + second == 1 ? -1 : 1, first + second == 3 ? -1 : 1);
+                    CHECK.due("two pairs", mill.indexes(4), 2);
+                }
+            }
+        }
     }
 }

@@ -123,6 +123,8 @@ public final class TellingTest {
         CHECK.due("the refused fact", mill.holdsAt(0, 16, 0, 0, 2), false);
         CHECK.due("in another hour", mill.fact(0, 16, 0, 0, 1, 1, 3), 16);
         CHECK.due("48 tuples", mill.size(0) + mill.size(1) + mill.size(3), 48);
+        CHECK.state("49 tuples in hour 0", () -> mill.fact(2, 1, 1, 1, 1, 0, 0));
+        CHECK.due("the refused fact", mill.size(2), 0);
         CHECK.due("a tuple that is there", mill.fact(0, 15, 0, 0, 1, 0, 0), 17);
         mill.pass();
         CHECK.state("too many in an hour that is over", () -> mill.fact(0, 17, 0, 0, 1, 0, 0));
@@ -309,11 +311,12 @@ public final class TellingTest {
         CHECK.argument("no head", mill::enter);
         mill.head(1, -1, -1, 0);
         CHECK.due("enter()", mill.enter(), 0);
-        CHECK.due("the draft is empty", mill.clear(), 0);
-        CHECK.argument("its head too", mill::enter);
+        CHECK.argument("the draft is without a head", mill::enter);
+        CHECK.due("the draft is without literals", mill.clear(), 0);
         for (int rule = 1; rule < 12; rule++) {
             mill.head(0, rule, 0, 0);
             CHECK.due("rule", mill.enter(), rule);
+            CHECK.argument("the head is gone", mill::enter);
         }
         CHECK.due("facts by rules", mill.size(1), 11);
         mill.head(0, 12, 0, 0);
@@ -411,9 +414,14 @@ public final class TellingTest {
         mill.head(1, -1, -2, 0);
         mill.atom(0, true, -1, 0, 0);
         CHECK.due("the head is not asked", mill.deny(), 0);
-        CHECK.due("the draft is empty", mill.clear(), 0);
-        CHECK.argument("its head too", mill::enter);
-        for (int denial = 1; denial < 6; denial++) {
+        mill.head(0, 1, 0, 0);
+        mill.clear();
+        mill.head(0, 1, 0, 0);
+        mill.compare(0, 1, 2);
+        CHECK.due("a head that is not asked", mill.deny(), 1);
+        CHECK.argument("the draft is without a head", mill::enter);
+        CHECK.due("the draft is without literals", mill.clear(), 0);
+        for (int denial = 2; denial < 6; denial++) {
             mill.compare(0, 1, 2);
             CHECK.due("deny()", mill.deny(), denial);
         }
@@ -448,5 +456,20 @@ public final class TellingTest {
         CHECK.due("the other one", mill.size(2), 2);
         mill.head(0, 1, 0, 0);
         CHECK.due("the next number", mill.enter(), 3);
+        Datalogmill strata = stopped();
+        strata.head(0, -1, 0, 0);
+        strata.atom(3, true, -1, 0, 0);
+        strata.atom(2, false, 1, 1, 1);
+        strata.compare(0, -1, 1);
+        strata.enter();
+        strata.head(1, -1, -2, 0);
+        strata.atom(3, true, -1, 0, 0);
+        strata.atom(3, true, -2, 0, 0);
+        strata.atom(0, false, 1, 0, 0);
+        strata.enter();
+        CHECK.due("stratum", strata.stratum(1), 2);
+        CHECK.state("49 pairs and more", () -> strata.remove(0));
+        CHECK.due("strata are as they were", strata.stratum(1), 2);
+        CHECK.due("strata are as they were", strata.stratum(0), 1);
     }
 }
