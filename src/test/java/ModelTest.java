@@ -76,6 +76,24 @@ public final class ModelTest {
         return mill;
     }
 
+    /** Seven values, and all pairs of them unless there is 1 in the relation 1, as the fact 0 tells. */
+    private static Datalogmill stopped() {
+        Datalogmill mill = new Datalogmill();
+        mill.declare(0, 1, PLAIN, 1);
+        mill.declare(1, 1, PLAIN, 1);
+        mill.declare(2, 2, PLAIN, 2);
+        mill.fact(1, 1, 0, 0, 1, 0, 3);
+        for (int value = 0; value < 7; value++) {
+            mill.fact(0, value, 0, 0, 1, 0, 3);
+        }
+        mill.head(2, -1, -2, 0);
+        mill.atom(0, true, -1, 0, 0);
+        mill.atom(0, true, -2, 0, 0);
+        mill.atom(1, false, 1, 0, 0);
+        mill.enter();
+        return mill;
+    }
+
     private static void promise14Holds() {
         Datalogmill mill = paths(12, 23, 31);
         CHECK.index("no such relation", () -> mill.holds(2, 1, 1, 0));
@@ -416,19 +434,7 @@ public final class ModelTest {
     }
 
     private static void promise22NeededTooManyTuples() {
-        Datalogmill mill = new Datalogmill();
-        mill.declare(0, 1, PLAIN, 1);
-        mill.declare(1, 1, PLAIN, 1);
-        mill.declare(2, 3, PLAIN, 3);
-        mill.fact(1, 1, 0, 0, 1, 0, 3);
-        for (int value = 0; value < 7; value++) {
-            mill.fact(0, value, 0, 0, 1, 0, 3);
-        }
-        mill.head(2, -1, -2, 0);
-        mill.atom(0, true, -1, 0, 0);
-        mill.atom(0, true, -2, 0, 0);
-        mill.atom(1, false, 1, 0, 0);
-        mill.enter();
+        Datalogmill mill = stopped();
         CHECK.due("without it there are 56 tuples", mill.needed(1, 1, 0, 0), 0);
         CHECK.due("others", mill.needed(0, 1, 0, 0), 1 << 2);
         mill.drop(7);
@@ -551,19 +557,7 @@ public final class ModelTest {
     }
 
     private static void promise25RepairTooManyTuples() {
-        Datalogmill mill = new Datalogmill();
-        mill.declare(0, 1, PLAIN, 1);
-        mill.declare(1, 1, PLAIN, 1);
-        mill.declare(2, 2, PLAIN, 2);
-        mill.fact(1, 1, 0, 0, 1, 0, 3);
-        for (int value = 0; value < 7; value++) {
-            mill.fact(0, value, 0, 0, 1, 0, 3);
-        }
-        mill.head(2, -1, -2, 0);
-        mill.atom(0, true, -1, 0, 0);
-        mill.atom(0, true, -2, 0, 0);
-        mill.atom(1, false, 1, 0, 0);
-        mill.enter();
+        Datalogmill mill = stopped();
         mill.atom(1, true, -1, 0, 0);
         mill.deny();
         CHECK.due("not alone, as there would be 56 tuples", mill.repair(), 1 | 1 << 1);
