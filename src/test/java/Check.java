@@ -24,6 +24,14 @@ final class Check {
         due(what, got ? 1 : 0, due ? 1 : 0);
     }
 
+    void so(String what, boolean is) {
+        asked++;
+        if (!is) {
+            wrong++;
+            System.out.println(test + ": " + what);
+        }
+    }
+
     void index(String what, Call call) {
         thrown(what, call, IndexOutOfBoundsException.class);
     }

@@ -9,7 +9,9 @@ import java.nio.file.Path;
 import java.util.ArrayList;
 import java.util.HashSet;
 import java.util.List;
+import java.util.Map;
 import java.util.Set;
+import java.util.TreeMap;
 import java.util.TreeSet;
 import java.util.regex.Matcher;
 import java.util.regex.Pattern;
@@ -133,19 +135,52 @@ public final class LanguageTest {
             CHECK.due(thrown.group(1), Set.of("IndexOutOfBoundsException", "IllegalArgumentException",
                     "IllegalStateException").contains(thrown.group(1)), true);
         }
-        lengths(source.split("\n"));
+        for (String line : source.split("\n")) {
+            CHECK.due("length of " + line, line.length() <= 120, true);
+        }
+        methods(bare.split("\n"));
     }
 
-    private static void lengths(String[] lines) {
-        int start = 0;
+    /** How long methods are, and how deep they call one another; those of one name are taken as one. */
+    private static void methods(String[] lines) {
+        Pattern start = Pattern.compile("^((?: {4}){1,2})(?:public|private) (?:static )?(?:[\\w\\[\\]]+ )?(\\w+)\\(.*");
+        Pattern call = Pattern.compile("(\\w+)\\(");
+        Map<String, Set<String>> calls = new TreeMap<>();
+        String method = null;
+        String end = "";
+        int first = 0;
         for (int i = 0; i < lines.length; i++) {
-            CHECK.due("length of line " + (i + 1), lines[i].length() <= 120, true);
-            if (lines[i].matches(" {4}(?: {4})?(?:public|private) .*\\(.*") && !lines[i].contains("class ")) {
-                start = i;
-            }
-            if (lines[i].equals("    }") || lines[i].equals("        }")) {
-                CHECK.due("lines up to " + (i + 1), i - start <= 60 || lines[i].equals("    }"), true);
+            Matcher begun = start.matcher(lines[i]);
+            if (begun.matches()) {
+                method = begun.group(2);
+                end = begun.group(1) + "}";
+                first = i;
+                calls.putIfAbsent(method, new TreeSet<>());
+            } else if (lines[i].equals(end)) {
+                CHECK.due("lines of " + method, i - first < 60, true);
+                method = null;
+            } else if (method != null) {
+                Matcher called = call.matcher(lines[i]);
+                while (called.find()) {
+                    calls.get(method).add(called.group(1));
+                }
             }
         }
+        CHECK.due("methods that are found", calls.size() > 100, true);
+        depths(calls);
+    }
+
+    private static void depths(Map<String, Set<String>> calls) {
+        Map<String, Integer> depths = new TreeMap<>();
+        for (int round = 0; round < 10; round++) {
+            for (String method : calls.keySet()) {
+                int deepest = 0;
+                for (String called : calls.get(method)) {
+                    deepest = Math.max(deepest, depths.getOrDefault(called, calls.containsKey(called) ? 1 : 0));
+                }
+                depths.put(method, deepest + 1);
+            }
+        }
+        depths.forEach((method, depth) -> CHECK.due("depth of the calls of " + method + " " + depth, depth <= 8, true));
     }
 }
