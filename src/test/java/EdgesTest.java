@@ -339,6 +339,10 @@ public final class EdgesTest {
         story.tell("fact(3, 1, 9, 0, 1, 0, 3)").due("holds(0, 1, 0, 0)", 1).due("ways(0, 1, 0, 0)", 1);
         story.tell("head(2, -1, -1, -1)", "atom(0, true, -1, 0, 0)", "enter()", "head(2, 1, 2, 3)", "head(0, 4, 0, 0)");
         story.tells("enter()", 2).due("holds(0, 4, 0, 0)", 1).due("holds(2, 4, 4, 4)", 1).due("size(2)", 2);
+        Story sum = plain().tell("declare(3, 2, LEAST, 1)", "declare(4, 2, LEAST, 1)", "head(0, 5, 0, 0)", "atom(3, true, -1, -2, 0)");
+        sum.tell("atom(0, false, 1, 0, 0)", "compare(SAME, 1, 1)", "add(-3, -2, 1)").refused("enter()", STATE).tells("clear()", 4);
+        sum.tell("head(4, 5, -3, 0)", "atom(3, true, -1, -2, 0)", "compare(LESS, -2, 9)", "atom(1, true, -4, -3, 0)");
+        sum.tells("enter()", 0).due("stratum(4)", 1);
     }
 
     private static void promise12Number() {
