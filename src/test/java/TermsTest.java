@@ -35,6 +35,7 @@ public final class TermsTest {
         safeSums();
         safeHeads();
         assignments();
+        assignmentsOfOneRuleBehindAnother();
         growsNowhereElse();
         growsIntoTheHead();
         growsIntoASum();
@@ -546,6 +547,22 @@ public final class TermsTest {
         story.due("ways(2, 0, 0, 4)", 1);
         story.tell("head(2, 0, 0, 5)", "atom(0, true, 3, 0, 0)").tells("enter()", 5).due("holds(2, 0, 0, 5)", 0);
         story.tell("head(2, 0, 0, 6)").tells("enter()", 6).due("ways(2, 0, 0, 6)", 1);
+    }
+
+    /** What one rule binds by a literal is not unbound by the literal of another rule that is there. */
+    private static void assignmentsOfOneRuleBehindAnother() {
+        String[] others = {"atom(0, false, -2, 0, 0)", "compare(OTHER, -2, 5)", "add(-4, -2, 1)"};
+        for (String other : others) {
+            Story story = plain().tell("declare(3, 1, PLAIN, 1)", "declare(4, 1, PLAIN, 1)", "fact(3, 7, 0, 0, 1, 0, 3)",
+                    "fact(4, 1, 0, 0, 1, 0, 3)", "fact(4, 2, 0, 0, 1, 0, 3)");
+            story.tell("head(1, -1, -1, 0)", "atom(4, true, -2, 0, 0)", "atom(4, true, -3, 0, 0)", "atom(3, true, -1, 0, 0)");
+            story.tells("enter()", 0).due("size(1)", 1).due("at(1, 0)", 7 * 16384 + 7 * 128);
+            story.tell("head(2, -1, -2, -3)", "atom(3, true, -1, 0, 0)", "atom(4, true, -2, 0, 0)", other,
+                    "atom(4, true, -3, 0, 0)").tells("enter()", 1);
+            story.due("size(2)", 4).due("at(2, 0)", 7 * 16384 + 129).due("at(2, 1)", 7 * 16384 + 130);
+            story.due("at(2, 2)", 7 * 16384 + 257).due("at(2, 3)", 7 * 16384 + 258);
+            story.due("ways(1, 7, 7, 0)", 4).due("ways(2, 7, 2, 2)", 1).due("ways(1, 7, 7, 0)", 4);
+        }
     }
 
     // ---- strata
